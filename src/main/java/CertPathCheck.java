@@ -130,6 +130,7 @@ public final class CertPathCheck {
         if (count == 0) {
             return false;
         }
+        // The parts stay in the arrays unread: addCert clears a position before it uses it again.
         count = count - 1;
         resetResult();
         return true;
@@ -195,7 +196,8 @@ public final class CertPathCheck {
             return keepFailure(ERR_EMPTY, -1);
         }
         startWalk();
-        for (int i = 0; i < count; i++) {
+        int n = count;
+        for (int i = 0; i < n; i++) {
             int fault = checkCert(i, time);
             if (fault == OK && !isLeaf(i)) {
                 fault = checkIssuing(i);
@@ -389,6 +391,7 @@ public final class CertPathCheck {
         return (initFlags & flag) != 0 ? 0 : count + 1;
     }
 
+    // Checks 1 to 4 of promise 11, in the document's order: the first fault is the answer.
     private int checkCert(int i, int time) {
         if (time < part(i, F_NOT_BEFORE) || time > part(i, F_NOT_AFTER)) {
             return ERR_VALIDITY;
@@ -469,6 +472,7 @@ public final class CertPathCheck {
         return mask;
     }
 
+    // Checks 5 to 7. The path length is counted down in prepareNext, since check 7 doesn't ask for it.
     private int checkIssuing(int i) {
         int basic = part(i, F_BASIC);
         if ((basic & BASIC_CA) == 0) {
@@ -519,6 +523,7 @@ public final class CertPathCheck {
         return limit >= 0 && limit < next ? limit : next;
     }
 
+    // The document lowers the explicit counter once more here, so 1 left counts as none.
     private int wrapUp() {
         int leaf = count - 1;
         boolean explicit = explicitLeft <= 1 || part(leaf, F_REQUIRE_EXPLICIT) == 0;

@@ -17,6 +17,8 @@ public final class PolicyChecksTest {
         intersection();
         inhibitedAny();
         mappingOfNamedPolicies();
+        severalPairsOfOnePolicy();
+        nothingOfAnEarlierWalkRemains();
         mappingUnderAnyPolicy();
         inhibitedMapping();
         leafMappingsAreNotUsed();
@@ -168,6 +170,34 @@ public final class PolicyChecksTest {
         authority("a mapping of a policy that is not there", x, 0);
     }
 
+    private static void severalPairsOfOnePolicy() {
+        CertPathCheck x = chain(P1, P2 + P3, P2);
+        x.addMapping(0, 1, 2);
+        x.addMapping(0, 1, 3);
+        authority("the first of two is carried on", x, P1);
+        x = chain(P1, P2 + P3, P5);
+        x.addMapping(0, 1, 2);
+        x.addMapping(0, 1, 3);
+        x.addMapping(1, 2, 5);
+        x.addMapping(1, 3, 6);
+        authority("the first of two is mapped on", x, P1);
+        x = chain(ANY, P1 + P2, P2);
+        x.addMapping(0, 1, 2);
+        authority("a mapped pair beside a newly named one", x, P1 + P2);
+    }
+
+    /** The pairs of an earlier path would name policy 1 for a leaf that only has policy 2. */
+    private static void nothingOfAnEarlierWalkRemains() {
+        CertPathCheck x = chain(P1, P2);
+        x.addMapping(0, 1, 2);
+        authority("the earlier path", x, P1);
+        x.removeLast();
+        x.removeLast();
+        Paths.append(x, 9);
+        x.addPolicy(0, 2);
+        authority("the later path", x, P2);
+    }
+
     private static void mappingUnderAnyPolicy() {
         CertPathCheck x = chain(ANY, P2);
         x.addMapping(0, 1, 2);
@@ -188,6 +218,12 @@ public final class PolicyChecksTest {
         x = chain(P1, ANY + P2, P1 + P2 + P3);
         x.addMapping(1, 1, 3);
         authority("it keeps what is there", x, P1);
+        for (int k = 0; k <= 1; k++) {
+            x = chain(ANY, ANY, P2);
+            x.setPolicyConstraints(0, -1, k, -1);
+            x.addMapping(1, 1, 2);
+            authority("opened with " + k + " mappings left", x, k == 0 ? P2 : P1 + P2);
+        }
     }
 
     private static void inhibitedMapping() {
