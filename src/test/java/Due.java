@@ -1,19 +1,48 @@
+import java.util.List;
 import java.util.Map;
 import java.util.TreeSet;
 
 /** Counts the answers that are not as due; every test ends with end(). */
 final class Due {
+    private static final int MOST_LINES = 20;
+
     private static int asked = 0;
     private static int wrong = 0;
+    private static int sentences = 0;
+    private static int wrongBeforeSentence = 0;
 
     private Due() {
+    }
+
+    /** Runs the test of one sentence of the document, and names the sentence if the test finds it broken. */
+    static void sentence(String words, Runnable test) {
+        int askedBefore = asked;
+        sentences++;
+        wrongBeforeSentence = wrong;
+        try {
+            test.run();
+        } catch (RuntimeException thrown) {
+            tell("threw " + thrown);
+        }
+        if (asked == askedBefore) {
+            tell("the test looks at nothing");
+        }
+        if (wrong != wrongBeforeSentence) {
+            System.out.println("NOT HELD: " + words);
+        }
+    }
+
+    private static void tell(String line) {
+        wrong++;
+        if (wrong - wrongBeforeSentence <= MOST_LINES) {
+            System.out.println(line);
+        }
     }
 
     static void same(String what, long got, long want) {
         asked++;
         if (got != want) {
-            wrong++;
-            System.out.println(what + ": answered " + got + ", due is " + want);
+            tell(what + ": answered " + got + ", due is " + want);
         }
     }
 
@@ -33,16 +62,16 @@ final class Due {
                 got.add(key);
             }
         }
-        TreeSet<String> want = new TreeSet<>(java.util.List.of(keys));
+        TreeSet<String> want = new TreeSet<>(List.of(keys));
         asked++;
         if (!got.equals(want)) {
-            wrong++;
-            System.out.println(what + ": changed " + got + ", due is " + want);
+            tell(what + ": changed " + got + ", due is " + want);
         }
     }
 
     static void end() {
-        System.out.println(asked + " answers looked at, " + wrong + " not as due");
+        String of = sentences == 0 ? "" : " for " + sentences + " sentences";
+        System.out.println(asked + " answers looked at" + of + ", " + wrong + " not as due");
         if (wrong != 0 || asked == 0) {
             System.exit(1);
         }

@@ -2,6 +2,8 @@
 final class Paths {
     static final int ANCHOR = 1;
     static final int TIME = 50;
+    /** The time at which a path of policied() fails at its leaf. */
+    static final int LATE = 95;
     private static final int CA = CertPathCheck.BASIC_CA;
 
     private Paths() {
@@ -14,6 +16,20 @@ final class Paths {
         for (int i = 0; i < n; i++) {
             append(x, i + 2);
         }
+        return x;
+    }
+
+    /** A chain that passes at TIME with F = {3} and R = {3, 5}, and fails at LATE at its leaf. */
+    static CertPathCheck policied(int n) {
+        CertPathCheck x = chain(n);
+        if (n > 0) {
+            x.removeLast();
+            x.addCert(n, n + 1, 0, LATE - 1);
+        }
+        for (int cert = 0; cert < n; cert++) {
+            policies(x, cert, 3, 5);
+        }
+        x.setInitial((1 << 3) + (1 << 2), 0);
         return x;
     }
 
@@ -45,11 +61,20 @@ final class Paths {
     }
 
     static void validatesAt(String what, CertPathCheck x, int time, int... due) {
-        Due.same(what + ", status", x.validate(time), due[0]);
-        Due.same(what + ", kept status", x.getField(-1, CertPathCheck.G_STATUS), due[0]);
+        Due.same(what + ", validate", x.validate(time), due[0]);
+        holds(what, x, due);
+    }
+
+    /** Looks at the last result: status, fail index, F and R. */
+    static void holds(String what, CertPathCheck x, int... due) {
+        Due.same(what + ", status", x.getField(-1, CertPathCheck.G_STATUS), due[0]);
         Due.same(what + ", fail index", x.getFailIndex(), due[1]);
         Due.same(what + ", F", x.getPolicies(), due[2]);
         Due.same(what + ", R", x.getAuthorityPolicies(), due[3]);
+    }
+
+    static void isReset(String what, CertPathCheck x) {
+        holds(what, x, CertPathCheck.NOT_VALIDATED, -1, 0, 0);
     }
 
     static void passes(String what, CertPathCheck x, int accepted, int authority) {

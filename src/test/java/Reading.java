@@ -1,3 +1,4 @@
+import java.util.List;
 import java.util.Map;
 import java.util.TreeMap;
 
@@ -46,6 +47,13 @@ final class Reading {
 
     static String subtree(int cert, int kind, int k) {
         return "cert " + cert + " kind " + kind + " subtree " + k;
+    }
+
+    /** The reading without the last result. */
+    static Map<String, Integer> stored(Map<String, Integer> reading) {
+        Map<String, Integer> rest = new TreeMap<>(reading);
+        rest.keySet().removeAll(List.of("status", "fail", "F", "R"));
+        return rest;
     }
 
     /** The reading without what it says of one certificate. */
