@@ -6,10 +6,16 @@ public final class CertificatesTest {
     private static final int EXPLICIT = CertPathCheck.INIT_EXPLICIT;
 
     public static void main(String[] args) {
+        Due.sentence("held in a small list of at most eight certificates", CertificatesTest::eightCertificates);
         Due.sentence("A policy is 0..15, and 0 is ANY_POLICY.", CertificatesTest::anyPolicy);
         Due.sentence("A policy set is a 16-bit mask: bit p stands for policy p.", CertificatesTest::bitsOfMasks);
         Due.sentence("at positions 0..count-1 (count <= capacity)", CertificatesTest::positions);
         Due.sentence("Position 0 is issued by the trust anchor; position count-1 is the leaf.", CertificatesTest::ends);
+        Due.sentence("notBefore and notAfter (any ints)", CertificatesTest::anyTimes);
+        Due.sentence("basic (flags 0..7, see BASIC_*)", CertificatesTest::basicFlags);
+        Due.sentence("pathLen (-1 = none, or 0..15)", CertificatesTest::noPathLength);
+        Due.sentence("requireExplicit, inhibitMapping and inhibitAny (each -1 = none, or 0..15)",
+                CertificatesTest::noConstraints);
         Due.sentence("the empty mask means the certificate has no policy extension", CertificatesTest::emptyMask);
         Due.sentence("for each issuer-domain policy s in 1..15, a mask T(s) of subject-domain policies t in 1..15",
                 CertificatesTest::everyMapping);
@@ -20,6 +26,19 @@ public final class CertificatesTest {
         Due.sentence("Certificate i is self-issued when issuer(i) == subject(i).", CertificatesTest::selfIssued);
         Due.sentence("Every stored part can be read back.", CertificatesTest::everyPartOfAFullPath);
         Due.end();
+    }
+
+    private static void eightCertificates() {
+        for (int capacity : new int[] {8, 9, 100, Calls.GREATEST}) {
+            CertPathCheck x = new CertPathCheck(capacity);
+            for (int cert = 0; cert < 8; cert++) {
+                x.addCert(cert, cert + 1, 0, 100);
+                x.setBasic(cert, CertPathCheck.BASIC_CA, -1);
+            }
+            Due.same("a ninth", x.addCert(8, 9, 0, 100), -1);
+            Due.same("count", x.getField(-1, CertPathCheck.G_COUNT), 8);
+            Paths.passes("eight", x, 0, 0);
+        }
     }
 
     private static void anyPolicy() {
@@ -75,6 +94,66 @@ public final class CertificatesTest {
             }
             x.setAnchor(0xF);
             Paths.fails("another anchor", x, CertPathCheck.ERR_ISSUER, 0);
+        }
+    }
+
+    private static void anyTimes() {
+        int[] times = {Calls.LEAST, -1, 0, 1, Calls.GREATEST};
+        for (int time : times) {
+            CertPathCheck x = new CertPathCheck(1);
+            x.addCert(0, 1, time, time);
+            Paths.validatesAt("at its one time " + time, x, time, CertPathCheck.OK, -1, 0, 0);
+            for (int other : times) {
+                Due.yes(other + " in " + time, (x.validate(other) == CertPathCheck.OK) == (other == time));
+            }
+        }
+    }
+
+    private static void basicFlags() {
+        Due.same("all three", CertPathCheck.BASIC_CA + CertPathCheck.BASIC_KEY_USAGE
+                + CertPathCheck.BASIC_KEY_CERT_SIGN, 7);
+        for (int flags = -1; flags <= 8; flags++) {
+            CertPathCheck x = Paths.chain(2);
+            Due.yes("setBasic " + flags, x.setBasic(0, flags, -1) == (flags >= 0 && flags <= 7));
+        }
+    }
+
+    /** None lets every number pass, 0 lets none pass, and 15 is more than a path can need. */
+    private static void noPathLength() {
+        for (int n = 2; n <= 8; n++) {
+            CertPathCheck x = Paths.chain(n);
+            x.setBasic(0, CertPathCheck.BASIC_CA, 15);
+            Paths.passes("15", x, 0, 0);
+            x.setBasic(0, CertPathCheck.BASIC_CA, -1);
+            Paths.passes("none", x, 0, 0);
+            x.setBasic(0, CertPathCheck.BASIC_CA, 0);
+            Paths.validates("0", x, n == 2 ? 0 : CertPathCheck.ERR_PATH_LENGTH, n == 2 ? -1 : 1, 0, 0);
+        }
+    }
+
+    private static void noConstraints() {
+        for (int n = 2; n <= 8; n++) {
+            CertPathCheck x = Paths.chain(n);
+            x.setPolicyConstraints(0, 15, 15, 15);
+            Paths.passes("15", x, 0, 0);
+            x.setPolicyConstraints(0, -1, -1, -1);
+            Paths.passes("none", x, 0, 0);
+            x.setPolicyConstraints(0, 0, -1, -1);
+            Paths.fails("requireExplicit 0", x, CertPathCheck.ERR_POLICY, 1);
+            x = Paths.chain(n);
+            for (int cert = 0; cert < n; cert++) {
+                x.addPolicy(cert, 0);
+            }
+            Paths.passes("inhibitAny none", x, 1, 1);
+            x.setPolicyConstraints(0, -1, -1, 0);
+            Paths.passes("inhibitAny 0", x, 0, 0);
+            x = Paths.policied(n);
+            for (int cert = 1; cert < n; cert++) {
+                x.addMapping(cert, 3, 3);
+            }
+            Paths.passes("inhibitMapping none", x, 8, 8 + 32);
+            x.setPolicyConstraints(0, -1, 0, -1);
+            Paths.passes("inhibitMapping 0", x, n == 2 ? 8 : 0, n == 2 ? 8 + 32 : 32);
         }
     }
 

@@ -20,7 +20,7 @@ public final class ConstructionTest {
         Due.sentence("initial flags 0", ConstructionTest::noFlags);
         Due.sentence("the last result is status NOT_VALIDATED, fail index -1, F = 0, R = 0",
                 () -> forSome("a new object", Paths::isReset));
-        Due.sentence("(objects do not share anything)", ConstructionTest::objectsAreApart);
+        objectsAreApart();
         Due.end();
     }
 

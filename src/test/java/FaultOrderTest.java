@@ -12,6 +12,7 @@ public final class FaultOrderTest {
         Due.sentence("the status and fail index must be those of the first failing check in the order of Promise 11",
                 FaultOrderTest::everySetOfFaultsOfAPosition);
         Due.sentence("Wrap-up (reached when the leaf's check 4 has passed)", FaultOrderTest::wrapUpComesLast);
+        Due.sentence("In summary, when n >= 1 the answer is OK exactly when", FaultOrderTest::okWithoutFaultsOnly);
         Due.end();
     }
 
@@ -80,5 +81,19 @@ public final class FaultOrderTest {
         CertPathCheck x = Faulty.path(3, 0, 0, 0);
         x.setInitial(1 << 4, CertPathCheck.INIT_EXPLICIT);
         Paths.fails("no other fault", x, CertPathCheck.ERR_POLICY, 2);
+    }
+
+    private static void okWithoutFaultsOnly() {
+        for (int first = 0; first < 2 << LAST; first += 1 << FIRST) {
+            for (int last = 0; last < 2 << LAST; last += 1 << FIRST) {
+                boolean none = true;
+                for (int status = FIRST; status <= LAST; status++) {
+                    none &= (first >> status & 1) == 0 || !Faulty.possible(2, 0, status);
+                    none &= (last >> status & 1) == 0 || !Faulty.possible(2, 1, status);
+                }
+                boolean ok = Faulty.path(2, first, last).validate(Paths.TIME) == CertPathCheck.OK;
+                Due.yes("faults " + first + " and " + last, ok == none);
+            }
+        }
     }
 }

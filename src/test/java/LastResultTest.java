@@ -19,6 +19,8 @@ public final class LastResultTest {
         Due.sentence("These three read the last result and change nothing.", LastResultTest::readersChangeNothing);
         Due.sentence("-1 when the status is NOT_VALIDATED, OK or ERR_EMPTY", LastResultTest::noFailIndex);
         Due.sentence("otherwise the position at which validation failed", LastResultTest::failIndexes);
+        Due.sentence("`getPolicies()` answers the accepted policy set F, and `getAuthorityPolicies()` answers the "
+                + "authority policy set R", LastResultTest::eachOfTheTwoSets);
         Due.sentence("both are 0 unless the status is OK", LastResultTest::policiesOnlyWithOk);
         Due.end();
     }
@@ -188,6 +190,20 @@ public final class LastResultTest {
                 }
             }
         }
+    }
+
+    private static void eachOfTheTwoSets() {
+        CertPathCheck x = Paths.policied(2);
+        Paths.passes("F is part of R", x, 8, 8 + 32);
+        x.setInitial(1 << 2, 0);
+        Paths.passes("F is empty, R is not", x, 0, 8 + 32);
+        x = Paths.chain(2);
+        Paths.policies(x, 0, 0);
+        Paths.policies(x, 1, 0);
+        x.setInitial(65534, 0);
+        Paths.passes("F is more than R", x, 65534, 1);
+        x.setInitial(65535, 0);
+        Paths.passes("F is R", x, 1, 1);
     }
 
     /** Each failure comes after an OK with policies in F and in R. */

@@ -10,6 +10,7 @@ public final class NamesTest {
     public static void main(String[] args) {
         Due.sentence("A name is an int in 0..65535", NamesTest::ends);
         Due.sentence("groups 0..len-1 hold labels 1..15 and every group from len on is 0", NamesTest::everyName);
+        Due.sentence("len (0..4) is the name's length.", NamesTest::lengths);
         Due.sentence("any negative int", () -> nowhereTaken(Calls.NEGATIVE));
         Due.sentence("any int above 65535", () -> nowhereTaken(Calls.ABOVE_NAMES));
         Due.sentence("0x0010, whose group 0 is 0 while group 1 is not", () -> nowhereTaken(Calls.ZERO_BEFORE_LABEL));
@@ -88,6 +89,11 @@ public final class NamesTest {
             }
             Due.same("count of names", names, 1 + 15 + 15 * 15 + 15 * 15 * 15 + 15 * 15 * 15 * 15);
         });
+    }
+
+    private static void lengths() {
+        everywhereTaken(0, 0x1, 0x11, 0x111, 0x1111, 0xF, 0xFF, 0xFFF, 0xFFFF);
+        nowhereTaken(0x11111, 0xFFFFF, 0x111111, 0x11111111, 0x10000);
     }
 
     private static void emptyName() {
