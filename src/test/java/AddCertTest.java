@@ -75,10 +75,7 @@ public final class AddCertTest {
 
     private static void defaults() {
         for (int at = 0; at < 8; at++) {
-            CertPathCheck x = Paths.policied(at);
-            for (int cert = 0; cert < at; cert++) {
-                RemoveLastTest.fill(x, cert);
-            }
+            CertPathCheck x = Full.path(at);
             x.addCert(0x21, 0x4321, -5, 77);
             CertificatesTest.isNew("at " + at, x, at, 0x21, 0x4321, -5, 77);
         }
@@ -99,11 +96,7 @@ public final class AddCertTest {
 
     private static void nothingElse() {
         for (int at = 0; at < 8; at++) {
-            CertPathCheck x = Paths.policied(at);
-            for (int cert = 0; cert < at; cert++) {
-                RemoveLastTest.fill(x, cert);
-            }
-            x.setInitial(0x8421, 5);
+            CertPathCheck x = Full.path(at);
             Map<String, Integer> before = Reading.of(x);
             x.addCert(0x21, 0x4321, -5, 77);
             Map<String, Integer> after = Reading.of(x);

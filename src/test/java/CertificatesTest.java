@@ -60,8 +60,12 @@ public final class CertificatesTest {
             CertPathCheck x = Paths.chain(1);
             Due.yes("addPolicy " + policy, x.addPolicy(0, policy));
             Due.same("mask of " + policy, x.getField(0, CertPathCheck.F_POLICIES), 1 << policy);
-            x.setInitial(1 << policy, EXPLICIT);
-            Paths.passes("U and R of " + policy, x, 1 << policy, 1 << policy);
+            int other = policy == 7 ? 8 : 7;
+            x.addPolicy(0, other);
+            Due.yes("U " + policy, x.setInitial(1 << policy, EXPLICIT));
+            boolean any = policy == 0;
+            int both = (1 << policy) + (1 << other);
+            Paths.passes("U of " + policy + ", R of it and " + other, x, any ? both : 1 << policy, both);
         }
     }
 

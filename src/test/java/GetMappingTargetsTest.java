@@ -11,17 +11,8 @@ public final class GetMappingTargetsTest {
         Due.end();
     }
 
-    /** Eight certificates with every mapping. */
-    private static CertPathCheck full() {
-        CertPathCheck x = Paths.policied(8);
-        for (int cert = 0; cert < 8; cert++) {
-            RemoveLastTest.fill(x, cert);
-        }
-        return x;
-    }
-
     private static void changesNothing() {
-        CertPathCheck x = full();
+        CertPathCheck x = Full.path(8);
         for (int time : new int[] {Paths.TIME, Paths.LATE}) {
             x.validate(time);
             Map<String, Integer> before = Reading.of(x);
@@ -45,17 +36,22 @@ public final class GetMappingTargetsTest {
     }
 
     private static void otherArguments() {
-        CertPathCheck x = full();
-        for (int k = 0; k < 4; k++) {
+        CertPathCheck x = Full.path(8);
+        otherArguments(x, 8);
+        for (int count = 7; count >= 0; count--) {
             x.removeLast();
+            otherArguments(x, count);
         }
-        for (int cert : Calls.notCerts(4)) {
+    }
+
+    private static void otherArguments(CertPathCheck x, int count) {
+        for (int cert : Calls.notCerts(count)) {
             for (int s = -17; s <= 33; s++) {
                 Due.same("getMappingTargets(" + cert + ", " + s + ")", x.getMappingTargets(cert, s), 0);
             }
         }
         int[] others = {Calls.LEAST, Calls.LEAST + 1, -33, -16, -15, -1, 0, 16, 17, 31, 32, 33, 128, Calls.GREATEST};
-        for (int cert = 0; cert < 4; cert++) {
+        for (int cert = 0; cert < count; cert++) {
             for (int s : others) {
                 Due.same("getMappingTargets(" + cert + ", " + s + ")", x.getMappingTargets(cert, s), 0);
             }
@@ -65,7 +61,7 @@ public final class GetMappingTargetsTest {
     }
 
     private static void bitZero() {
-        CertPathCheck x = full();
+        CertPathCheck x = Full.path(8);
         for (int t : new int[] {0, 16, 32, -32, Calls.LEAST}) {
             for (int cert = 0; cert < 8; cert++) {
                 for (int s = 0; s <= 16; s++) {

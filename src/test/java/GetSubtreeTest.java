@@ -20,6 +20,7 @@ public final class GetSubtreeTest {
     private static CertPathCheck with(int permitted, int excluded) {
         CertPathCheck x = Paths.policied(8);
         for (int cert = 7; cert >= 0; cert--) {
+            x.setPolicyConstraints(cert, 15, 15, 15);
             for (int k = 0; k < permitted; k++) {
                 x.addSubtree(cert, CertPathCheck.PERMITTED, name(cert, 0, k));
             }

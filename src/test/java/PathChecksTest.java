@@ -91,6 +91,17 @@ public final class PathChecksTest {
             x.validate(Paths.TIME);
             Due.changed("after refused calls", first, Reading.of(x));
         }
+        // What the first walk leaves in its working values would give the second one another R.
+        CertPathCheck x = Paths.chain(3);
+        Paths.policies(x, 0, 1);
+        x.addMapping(0, 1, 2);
+        Paths.policies(x, 1, 2);
+        x.addMapping(1, 2, 3);
+        Paths.policies(x, 2, 3);
+        x.setPolicyConstraints(1, 0, 0, 0);
+        for (int k = 0; k < 3; k++) {
+            Paths.passes("a path of mappings", x, 2, 2);
+        }
     }
 
     private static void emptyPath() {
@@ -357,6 +368,8 @@ public final class PathChecksTest {
         Paths.passes("length 0, then the leaf", x, 0, 0);
         Paths.append(x, 10);
         Paths.fails("length 0, then another before the leaf", x, CertPathCheck.ERR_PATH_LENGTH, 1);
+        x.setBasic(0, CA, 1);
+        Paths.passes("length 1, then another before the leaf", x, 0, 0);
 
         x = Paths.chain(1);
         x.setBasic(0, CA, 0);

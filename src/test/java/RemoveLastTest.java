@@ -14,22 +14,6 @@ public final class RemoveLastTest {
         Due.end();
     }
 
-    /** Writes every part of a certificate full. */
-    static void fill(CertPathCheck x, int cert) {
-        x.setBasic(cert, 7, 15);
-        x.setPolicyConstraints(cert, 15, 14, 13);
-        for (int p = 0; p <= 15; p++) {
-            x.addPolicy(cert, p);
-            for (int t = 1; t <= 15; t++) {
-                x.addMapping(cert, p, t);
-            }
-        }
-        for (int k = 0; k < 4; k++) {
-            x.addSubtree(cert, CertPathCheck.PERMITTED, 0);
-            x.addSubtree(cert, CertPathCheck.EXCLUDED, 0xF);
-        }
-    }
-
     private static void emptyList() {
         CertPathCheck x = new CertPathCheck(8);
         Map<String, Integer> before = Reading.of(x);
@@ -62,10 +46,7 @@ public final class RemoveLastTest {
     }
 
     private static void nothingElse() {
-        CertPathCheck x = Paths.policied(8);
-        for (int cert = 0; cert < 8; cert++) {
-            fill(x, cert);
-        }
+        CertPathCheck x = Full.path(8);
         for (int last = 7; last >= 0; last--) {
             Map<String, Integer> before = Reading.of(x);
             x.removeLast();
@@ -75,10 +56,7 @@ public final class RemoveLastTest {
     }
 
     private static void notRead() {
-        CertPathCheck x = Paths.policied(8);
-        for (int cert = 0; cert < 8; cert++) {
-            fill(x, cert);
-        }
+        CertPathCheck x = Full.path(8);
         for (int cert = 7; cert >= 0; cert--) {
             x.removeLast();
             for (int field = 0; field <= 11; field++) {
@@ -95,10 +73,7 @@ public final class RemoveLastTest {
     }
 
     private static void newOneThere() {
-        CertPathCheck x = Paths.policied(8);
-        for (int cert = 0; cert < 8; cert++) {
-            fill(x, cert);
-        }
+        CertPathCheck x = Full.path(8);
         for (int down = 7; down >= 0; down--) {
             for (int cert = 7; cert >= down; cert--) {
                 x.removeLast();
@@ -106,7 +81,7 @@ public final class RemoveLastTest {
             for (int cert = down; cert < 8; cert++) {
                 Due.same("addCert again", x.addCert(0x11, 0x12, 9, 8), cert);
                 CertificatesTest.isNew("at " + cert + " again", x, cert, 0x11, 0x12, 9, 8);
-                fill(x, cert);
+                Full.fill(x, cert);
             }
         }
     }
@@ -117,7 +92,7 @@ public final class RemoveLastTest {
             CertPathCheck used = Paths.chain(at);
             CertPathCheck fresh = Paths.chain(at);
             Paths.append(used, 9);
-            fill(used, at);
+            Full.fill(used, at);
             used.addSubtree(at, CertPathCheck.EXCLUDED, 0);
             used.validate(Paths.TIME);
             used.removeLast();

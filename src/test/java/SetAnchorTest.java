@@ -39,8 +39,7 @@ public final class SetAnchorTest {
 
     private static void nothingElse() {
         for (int n = 0; n <= 8; n++) {
-            CertPathCheck x = Paths.policied(n);
-            x.setInitial(0x8421, 5);
+            CertPathCheck x = Full.path(n);
             Calls.accepted("another anchor, " + n + " certificates", x, () -> x.setAnchor(0x4321), "anchor");
         }
     }

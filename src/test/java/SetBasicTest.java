@@ -56,10 +56,7 @@ public final class SetBasicTest {
     }
 
     private static void nothingElse() {
-        CertPathCheck x = Paths.policied(8);
-        for (int cert = 0; cert < 8; cert++) {
-            RemoveLastTest.fill(x, cert);
-        }
+        CertPathCheck x = Full.path(8);
         for (int cert = 0; cert < 8; cert++) {
             int at = cert;
             Calls.accepted("setBasic of " + cert, x, () -> x.setBasic(at, 1, 8),

@@ -68,7 +68,7 @@ public final class SetInitialTest {
 
     private static void nothingElse() {
         for (int n = 0; n <= 8; n++) {
-            CertPathCheck x = Paths.policied(n);
+            CertPathCheck x = Full.path(n);
             Calls.accepted("with " + n + " certificates", x, () -> x.setInitial(65535, 7), "U", "flags");
         }
     }

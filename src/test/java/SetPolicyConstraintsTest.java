@@ -57,10 +57,7 @@ public final class SetPolicyConstraintsTest {
     }
 
     private static void nothingElse() {
-        CertPathCheck x = Paths.policied(8);
-        for (int cert = 0; cert < 8; cert++) {
-            RemoveLastTest.fill(x, cert);
-        }
+        CertPathCheck x = Full.path(8);
         for (int cert = 0; cert < 8; cert++) {
             int at = cert;
             Calls.accepted("of " + cert, x, () -> x.setPolicyConstraints(at, 3, 4, 5),
