@@ -4,8 +4,8 @@ public final class AddPolicyTest {
         Due.sentence("answers false and changes nothing unless 0 <= cert < count",
                 () -> Calls.onlyForHeldCerts("addPolicy", (x, cert) -> x.addPolicy(cert, 7)));
         Due.sentence("policy is in 0..15", AddPolicyTest::policies);
-        Due.sentence("sets bit policy in the policies of cert (policy 0 sets the ANY_POLICY bit), leaves the other bits "
-                + "as they were", AddPolicyTest::bitByBit);
+        Due.sentence("sets bit policy in the policies of cert (policy 0 sets the ANY_POLICY bit), leaves the other "
+                + "bits as they were", AddPolicyTest::bitByBit);
         Due.sentence("resets the last result, and answers true, also when the bit was already set",
                 AddPolicyTest::alreadySet);
         Due.sentence("Policies cannot be cleared except by removing the certificate.", AddPolicyTest::neverCleared);

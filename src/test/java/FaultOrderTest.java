@@ -7,8 +7,8 @@ public final class FaultOrderTest {
     public static void main(String[] args) {
         Due.sentence("Positions i = 0..n-1 are processed in order, and the checks of one position in the order below.",
                 FaultOrderTest::twoFaults);
-        Due.sentence("The first failing check ends validation with that check's status and fail index i, and F = R = 0.",
-                FaultOrderTest::oneFault);
+        Due.sentence("The first failing check ends validation with that check's status and fail index i, and "
+                + "F = R = 0.", FaultOrderTest::oneFault);
         Due.sentence("the status and fail index must be those of the first failing check in the order of Promise 11",
                 FaultOrderTest::everySetOfFaultsOfAPosition);
         Due.sentence("Wrap-up (reached when the leaf's check 4 has passed)", FaultOrderTest::wrapUpComesLast);

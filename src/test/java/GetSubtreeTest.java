@@ -4,8 +4,8 @@ import java.util.Map;
 public final class GetSubtreeTest {
     public static void main(String[] args) {
         Due.sentence("`getSubtree(cert, kind, k)` changes nothing.", GetSubtreeTest::changesNothing);
-        Due.sentence("It answers the k-th (counting from 0, in order added) subtree of kind kind (PERMITTED or EXCLUDED) "
-                + "of cert.", GetSubtreeTest::inOrder);
+        Due.sentence("It answers the k-th (counting from 0, in order added) subtree of kind kind (PERMITTED or "
+                + "EXCLUDED) of cert.", GetSubtreeTest::inOrder);
         Due.sentence("It answers -1 unless 0 <= cert < count", GetSubtreeTest::otherCerts);
         Due.sentence("kind is 0 or 1", GetSubtreeTest::otherKinds);
         Due.sentence("0 <= k is less than cert's number of subtrees of that kind", GetSubtreeTest::otherPlaces);

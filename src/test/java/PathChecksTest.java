@@ -483,7 +483,8 @@ public final class PathChecksTest {
                         due = looked && x.getField(i, CertPathCheck.F_SUBJECT) == excluded ? i : due;
                     }
                     int status = due == -1 ? OK : CertPathCheck.ERR_NAME;
-                    Paths.validates(excluded + " excluded by " + j + ", self-issued " + selfIssued, x, status, due, 0, 0);
+                    String what = excluded + " excluded by " + j + ", self-issued " + selfIssued;
+                    Paths.validates(what, x, status, due, 0, 0);
                 }
                 CertPathCheck x = mixture(n, selfIssued);
                 x.addSubtree(j, PERMITTED, 0xF);

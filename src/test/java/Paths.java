@@ -33,10 +33,16 @@ final class Paths {
         return x;
     }
 
+    /** The name that issues the next certificate: the anchor or the last subject. */
+    private static int nextIssuer(CertPathCheck x) {
+        int at = x.getField(-1, CertPathCheck.G_COUNT);
+        return at == 0 ? x.getField(-1, CertPathCheck.G_ANCHOR) : x.getField(at - 1, CertPathCheck.F_SUBJECT);
+    }
+
     /** Appends a certificate issued by the last one; every certificate before it becomes or stays a CA. */
     static int append(CertPathCheck x, int subject) {
         int at = x.getField(-1, CertPathCheck.G_COUNT);
-        int issuer = at == 0 ? x.getField(-1, CertPathCheck.G_ANCHOR) : x.getField(at - 1, CertPathCheck.F_SUBJECT);
+        int issuer = nextIssuer(x);
         if (at > 0) {
             int pathLen = x.getField(at - 1, CertPathCheck.F_PATH_LEN);
             x.setBasic(at - 1, x.getField(at - 1, CertPathCheck.F_BASIC) | CA, pathLen);
@@ -45,8 +51,7 @@ final class Paths {
     }
 
     static int appendSelfIssued(CertPathCheck x) {
-        int at = x.getField(-1, CertPathCheck.G_COUNT);
-        return append(x, at == 0 ? x.getField(-1, CertPathCheck.G_ANCHOR) : x.getField(at - 1, CertPathCheck.F_SUBJECT));
+        return append(x, nextIssuer(x));
     }
 
     static void policies(CertPathCheck x, int cert, int... policies) {
