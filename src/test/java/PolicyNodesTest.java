@@ -100,6 +100,9 @@ public final class PolicyNodesTest {
         x = Policies.chain(P1, ANY);
         x.addMapping(0, 1, 2);
         Policies.passes("a mapped pair by any-policy", x, P1);
+        x = Policies.chain(ANY + P1, P1 + P2, P2);
+        x.addMapping(0, 1, 2);
+        Policies.passes("(1, 2) stays beside the (1, 1) that (0, 0) opens", x, P1 + P2);
     }
 
     private static void namedUnderAny() {
@@ -110,6 +113,9 @@ public final class PolicyNodesTest {
         Policies.passes("all but any-policy", Policies.chain(ANY, ALL - 1), ALL - 1);
         Policies.passes("beside one that was named", Policies.chain(ANY + P1, P1 + P2), P1 + P2);
         Policies.passes("under any-policy of any-policy", Policies.chain(ANY, ANY, P15), P15);
+        CertPathCheck x = Policies.chain(ANY + P1, P1 + P2, P1);
+        x.addMapping(0, 1, 2);
+        Policies.passes("(1, 1) joins beside the (1, 2) that is held", x, P1);
     }
 
     private static void anyStays() {
